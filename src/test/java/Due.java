@@ -1,0 +1,58 @@
+/** Counts answers that are not the ones that are due, and prints them; and makes objects to ask. */
+final class Due {
+    private static int wrong = 0;
+    private static int asked = 0;
+
+    private Due() {
+    }
+
+    static void is(String call, long got, long want) {
+        asked++;
+        if (got != want) {
+            wrong++;
+            System.out.println(call + " answered " + got + ", due is " + want);
+        }
+    }
+
+    static void holds(String what, boolean so) {
+        is(what, so ? 1 : 0, 1);
+    }
+
+    /** Ends the program: with exit code 1, if one answer was not due. */
+    static void end() {
+        System.out.println(asked + " answers, " + wrong + " not as due");
+        if (wrong != 0) {
+            System.exit(1);
+        }
+    }
+
+    /** Feeds a text of signs 0 to 255, up to four at a time. */
+    static void feed(AcrossOnFoot x, String text) {
+        for (int from = 0; from < text.length(); from += 4) {
+            int n = Math.min(4, text.length() - from);
+            int v = 0;
+            for (int k = 0; k < n; k++) {
+                v |= text.charAt(from + k) << 8 * k;
+            }
+            x.feed(n, v);
+        }
+    }
+
+    static int place(AcrossOnFoot x, String text) {
+        feed(x, text);
+        return x.place();
+    }
+
+    static int law(AcrossOnFoot x, String text) {
+        feed(x, text);
+        return x.law();
+    }
+
+    static AcrossOnFoot at(String... places) {
+        AcrossOnFoot x = new AcrossOnFoot();
+        for (String place : places) {
+            place(x, place);
+        }
+        return x;
+    }
+}
