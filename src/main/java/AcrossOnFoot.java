@@ -459,12 +459,9 @@ public final class AcrossOnFoot {
             return true;
         }
 
+        /** Empties it, and the next reader begins at its first byte. */
         void clear() {
             length = 0;
-            at = 0;
-        }
-
-        void rewind() {
             at = 0;
         }
 
@@ -583,7 +580,6 @@ public final class AcrossOnFoot {
 
         /** Makes THE TAPE the next PLACE; false, and the cursor at the FAULT, if it is none. */
         boolean read() {
-            tape.rewind();
             if (isFull()) {
                 return false;
             }
@@ -662,7 +658,6 @@ public final class AcrossOnFoot {
 
         /** How many codes the text makes; -1, and the cursor at the FAULT, if it is none. */
         int read() {
-            tape.rewind();
             made = 0;
             for (int n = 0; n <= Tape.MOST; n++) {
                 if (!readLine()) {
@@ -1621,11 +1616,11 @@ public final class AcrossOnFoot {
         }
 
         long elementAt(int shelf, int i) {
-            return hasStretch(shelf, i, 1) && i < LONGEST ? rows[shelf][i] : 0;
+            return hasStretch(shelf, i, 1) ? rows[shelf][i] : 0;
         }
 
         void putAt(int shelf, int i, long v) {
-            if (hasStretch(shelf, i, 1) && i < LONGEST) {
+            if (hasStretch(shelf, i, 1)) {
                 rows[shelf][i] = kept(sorts[shelf], v);
             }
         }

@@ -23,8 +23,12 @@ public final class PromiseTests {
         of();
         margin();
         marginBad();
+        lees();
+        placesAndHours();
         over();
+        atTheEdge();
         order();
+        orderOfStrength();
         best();
         gusts();
         await();
@@ -292,6 +296,8 @@ public final class PromiseTests {
         lawFault("((((((h)))))", 12);
         lawFault("((((((-h))))))", 6);
         lawFault("((((((+", 6);
+        lawFault("1?(((((((h", 8);
+        lawFault("1?2;(((((((h", 10);
         lawFault("\u0000", 0);
         lawFault("1\u00ff", 1);
     }
@@ -355,7 +361,7 @@ public final class PromiseTests {
             {"0?5;8;9", 0, 8}, {"0;9", 0, 0}, {"1?0;9", 0, 0},
             {"-2*1024*1024*1024/-1", 0, -20}, {"-2*1024*1024*1024%-1", 0, 0}, {"2*1024*1024*1024", 0, -20},
             {"2*1024*1024*1024-1", 0, 60}, {"4096*1024*1024+3", 0, 3},
-            {"((((((h))))))", 9, 9}, {"!!!!!!7", 0, 1}, {"------7", 0, 7}, {"((h)+(h))*((h))", 2, 8},
+            {"((((((h))))))", 9, 9}, {"1?((((((h))))))", 9, 9}, {"0?1;!!!!((h))?((((((c))))))", 30, 6}, {"!!!!!!7", 0, 1}, {"------7", 0, 7}, {"((h)+(h))*((h))", 2, 8},
             {"(-(-(-h)))", 2, -2}, {"1|1&1=1+1*(1|1&1=1+1*(1|1&1=1+1*(0)))", 0, 1},
         };
         for (Object[] row : rows) {
@@ -510,6 +516,82 @@ public final class PromiseTests {
         Due.is("13: five are not", x.margin(0, 123451, 0, 0), 707);
     }
 
+    private static void lees() {
+        AcrossOnFoot x = Due.at("9,30,2/0");
+        for (int n = 0; n < 5; n++) {
+            x.person(7018, 420);
+        }
+        // 8100 times the LEE by 1000
+        int[][] pushes = {
+            {810, 810, 810, 810, 810}, {810, 688, 567, 445, 324}, {810, 486, 486, 324, 324}, {810, 810, 810, 810, 810},
+        };
+        for (int form = 0; form < 4; form++) {
+            for (int rank = 0; rank < 5; rank++) {
+                fares(x, "form " + form, 0, 123450 + form, 100 * rank, form == 0 ? 363 : 330, pushes[form][rank],
+                    (form == 0 ? 363 : 330) - pushes[form][rank]);
+            }
+        }
+    }
+
+    /** Each place at each hour is as a place that is alone, by a law that tells the same rise at all hours. */
+    private static void placesAndHours() {
+        String[] places = {"3,4,5/1", "5,6,1;4,9,2/2", "9,10,2/3", "1,12,0;8,2,2;6,6,6/4", "10,3,9/5", "7,8,3;2,14,4/6"};
+        AcrossOnFoot x = Due.at(places);
+        addThree(x);
+        force(x, "h/2-9");
+        for (int hour = 0; hour < 48; hour++) {
+            for (int place = 0; place < 6; place++) {
+                AcrossOnFoot y = Due.at(places[place]);
+                addThree(y);
+                force(y, "" + (hour / 2 - 9));
+                int ph = 100 * place + hour;
+                Due.is("4: depth, ph " + ph, x.cell(place, 0, 3, hour), y.cell(0, 0, 3, 0));
+                Due.is("4: pace, ph " + ph, x.cell(place, 0, 4, hour), y.cell(0, 0, 4, 0));
+                Due.is("13: ph " + ph, x.margin(ph, 1232, 201, 0), y.margin(0, 1232, 201, 0));
+                Due.is("13: ph " + ph, x.margin(ph, 1231, 100, 0), y.margin(0, 1231, 100, 0));
+                Due.is("14: ph " + ph, x.over(ph, 1233, 1), y.over(0, 1233, 1));
+                Due.is("14: ph " + ph, x.over(ph, 1233, 2), y.over(0, 1233, 2));
+                Due.is("15: ph " + ph, x.order(ph, 1231, 0), y.order(0, 1231, 0));
+                Due.is("15: ph " + ph, x.order(ph, 1231, 1), y.order(0, 1231, 1));
+                Due.is("17: ph " + ph, x.gusts(ph, 231, hour, 2010, 1), y.gusts(0, 231, hour, 2010, 1));
+                Due.is("19: ph " + ph, x.mustNot(ph), y.mustNot(0));
+                Due.is("21: ph " + ph, x.line(place, 1232), y.line(0, 1232));
+                Due.is("23: ph " + ph, x.roped(ph, 1231, 100), y.roped(0, 1231, 100));
+                Due.is("24: ph " + ph, x.stick(ph, 83), y.stick(0, 83));
+            }
+        }
+    }
+
+    /** Of two people the first holds just as much as pushes, the second one less. */
+    private static void atTheEdge() {
+        AcrossOnFoot x = Due.at("5,10,0;5,10,0/3");
+        x.person(3010, 208);
+        x.person(3010, 300);
+        Due.is("14: margin 0 stands", x.over(0, 10, 0), 1);
+        Due.is("14: margin 0 is the least", x.over(0, 10, 1), 0);
+        Due.is("14: margin -1 does not stand", x.over(0, 20, 0), 0);
+        Due.is("14: margin -1 is the first", x.over(0, 210, 2), 0);
+        Due.is("14: margin -1 is the least", x.over(0, 120, 1), -1);
+        Due.is("17: margin 0", x.gusts(0, 10, 5, 5001, 0), 50);
+        Due.is("17: margin -1", x.gusts(0, 20, 5, 5001, 0), 0);
+        Due.is("18: margin 0", x.await(7, 10), 7);
+        Due.is("18: margin -1", x.await(7, 20), NOT);
+        Due.is("20: margin 0", x.midst(7, 10, 1, 0), 2);
+        Due.is("20: margin -1", x.midst(7, 20, 1, 0), 0);
+        Due.is("21: margin 0", x.line(0, 10), 0);
+        Due.is("21: margin -1", x.line(0, 20), -1);
+        x.mend(0, 1, 1, 11);
+        Due.is("20: margin -10 in cell 1", x.midst(7, 10, 60, 0), 1);
+        Due.is("20: margin 0 on the way back", x.midst(7, 10, 60, 1), 1);
+        // as the last ROWED with LEE 40: 46 and 45 hold; 5 times the pace squared times 40 / 1000 pushes
+        AcrossOnFoot y = Due.at("5,15,0/0");
+        y.person(3010, 208);
+        y.person(3010, 300);
+        y.person(3010, 207);
+        y.person(3010, 101);
+        Due.is("19: 45 push: of 46, 45, 44, 16", y.mustNot(0), 12);
+    }
+
     private static void over() {
         AcrossOnFoot x = Due.at("3,4,5;9,10,2;0,0,0/7", "0,0,9;9,12,2;10,0,9/0");
         addThree(x);
@@ -561,6 +643,18 @@ public final class PromiseTests {
         Due.is("15: its least", x.order(0, 876541, 1), best[1]);
     }
 
+    /** The strongest goes first, so the last of all orders is the best. */
+    private static void orderOfStrength() {
+        AcrossOnFoot x = Due.at("9,27,0/0");
+        for (int legs = 1; legs <= 5; legs++) {
+            x.person(12018, 100 * legs + 38);
+        }
+        // ROWED: 98 times LEGS hold, 656, 557, 459, 360, 262 push: by that order -166 to -164
+        Due.is("15: the strongest first", x.order(0, 123451, 0), 54321);
+        Due.is("15: its least", x.order(0, 123451, 1), -166);
+        Due.is("15: ALONE", x.order(0, 543210, 0), 12345);
+    }
+
     /** Goes through all orders of 4 to 8 by rising digits, one digit more at a time. */
     private static void seekOrder(AcrossOnFoot x, int digits, int used, int[] best) {
         if (digits > 9999) {
@@ -596,6 +690,7 @@ public final class PromiseTests {
         Due.is("16: lined", x.best(12, 511, 0), 5013);
         Due.is("16: lined", x.best(12, 511, 1), 143);
         Due.is("16: hours that are dark", x.best(1, 4, 0), NOT);
+        Due.is("16: hour 0 is dark", x.best(1, 0, 0), NOT);
         Due.is("16: hours that are dark", x.best(1, 2028, 0), NOT);
         Due.is("16: hours that are dark", x.best(1, 4447, 1), NOT);
         Due.is("16: hour 19", x.best(1, 1919, 0), 19010);
@@ -707,6 +802,13 @@ public final class PromiseTests {
         Due.is("20: they do not come back by cell 0 at hour 8", x.midst(5, 20, 60, 1), 0);
         Due.is("20: they come back by cell 0 at hour 7", x.midst(6, 20, 30, 1), 1);
         x.force(-1);
+        AcrossOnFoot w = Due.at("2,0,9;2,0,9;9,0,9/0");
+        addThree(w);
+        force(w, "h=7?9");
+        Due.is("20: they do not come back by cell 1 at hour 7", w.midst(5, 20, 60, 1), 0);
+        force(w, "h=7?7");
+        Due.is("20: they come back by cell 1 at hour 7", w.midst(5, 20, 60, 1), 1);
+        x.force(-1);
         AcrossOnFoot y = Due.at("2,0,9;8,0,9;2,0,9;2,0,9;9,0,9/0");
         addThree(y);
         // cell 4 at hour 12 and 4 * 45 / 60; back by cells 3, 2, 1, 0 at 15, 15, 16, 17
@@ -764,22 +866,38 @@ public final class PromiseTests {
         Due.place(x, "2,0,9/0");
         Due.is("22: the first of like ones", x.wall(2, 0), 10);
         Due.is("22: its line", x.wall(2, 1), 7);
-        x.mend(1, 0, 0, 30);
-        x.mend(2, 0, 1, 30);
-        // 2 deep, 30 quick: in cell 2 ROWED (90 - 2 .. ) stand longer the less is pushed
-        int best = -100;
-        int where = NOT;
-        for (int place = 0; place < 3; place++) {
-            for (int form = 0; form < 4; form++) {
-                int line = x.line(place, 1320 + form);
-                if (line > best) {
-                    best = line;
-                    where = 10 * place + form;
-                }
-            }
+        AcrossOnFoot y = Due.at("9,30,9/0", "5,10,0/0", "9,30,9/0");
+        y.person(3010, 208);
+        y.person(3010, 200);
+        y.person(12022, 940);
+        // in cell 1 at 0 the first alone: 46, a tenth more, and 50 push; the third: (160 - 27) * 9 and more
+        Due.is("22: ALONE is best for one", y.wall(1, 0), 10);
+        Due.is("22: its line", y.wall(1, 1), 0);
+        // 50 hold, 50 push: ALONE 0 is the line; ROWED 46 and 42; WEDGED 46 and 30, one deeper and as quick 40 and 36
+        int[] lines = {0, 0, 1};
+        for (int form = 0; form < lines.length; form++) {
+            Due.is("22: two, form " + form, y.line(1, 310 + form), lines[form]);
         }
-        Due.is("22: three", x.wall(132, 0), where);
-        Due.is("22: three", x.wall(132, 1), best);
+        Due.is("22: the third helps most", y.wall(31, 0), 13);
+        Due.is("22: its line", y.wall(31, 1), y.line(1, 313));
+        Due.is("22: lined is more", y.line(1, 313) > 1 ? 1 : 0, 1);
+        Due.is("22: he needs no help", y.wall(3, 1), Math.max(y.line(0, 30), y.line(1, 30)));
+        AcrossOnFoot z = Due.at("5,10,0/0");
+        z.person(3010, 208);
+        z.person(3010, 209);
+        // 50 and 52 hold, 50 push; WEDGED 46 and 50, 48 and 30; LINED 47 and 47: at -1 all ALONE and LINED stand
+        Due.is("22: two alike", z.wall(12, 0), 0);
+        Due.is("22: two alike", z.wall(12, 1), 0);
+        z.set(1, 1, 0);
+        z.set(1, 0, 3);
+        // the second: ROWED 45 and 42: the first is too weak to go first; with a pack he is not
+        Due.is("22: the first ALONE, the second behind", z.wall(21, 1), Math.max(z.line(0, 211), z.line(0, 212)));
+        z.set(0, 1, 12);
+        Due.is("22: ROWED 54 and 45, and WEDGED no more", z.wall(12, 0), 1);
+        z.set(1, 0, 2);
+        z.set(1, 1, 3);
+        Due.is("22: WEDGED 54 and 36, by 50 and 30", z.wall(12, 0), 2);
+        Due.is("22: its line", z.wall(12, 1), 0);
         int[][] bad = {{0, 0}, {4, 0}, {11, 0}, {-1, 0}, {1, 2}, {1, -1}, {10, 0}};
         for (int[] b : bad) {
             Due.is("22: " + java.util.Arrays.toString(b), x.wall(b[0], b[1]), VOID);
@@ -895,6 +1013,10 @@ public final class PromiseTests {
         Due.is("26: up to the twenty-first rise", y.notches(0, 4, 19), 18);
         Due.is("26: they came", y.count(3), 20);
         Due.is("26: they are full", y.notches(0, 50, 1), 0);
+        AcrossOnFoot w = new AcrossOnFoot();
+        w.row(0, 0, 2);
+        Due.is("26: a row of one two", w.notches(0, 0, 2), 1);
+        Due.is("26: it came", w.notch(0, 0), BAD);
         AcrossOnFoot z = new AcrossOnFoot();
         z.row(0, 0, 4);
         putAll(z, 0, 5, 61, 6, 0);
@@ -978,21 +1100,30 @@ public final class PromiseTests {
 
     private static void fortyChanges() {
         AcrossOnFoot x = Due.at("0,0,0/0");
+        // by turns depth becomes 1, pace 2, depth 3, pace 4, and so on
         for (int n = 1; n <= 45; n++) {
-            x.mend(0, 0, 0, n % 31);
+            x.mend(0, 0, 1 - n % 2, n % 31);
             Due.is("29: kept after " + n, x.count(5), Math.min(n, 40));
         }
         for (int left = 39; left >= 0; left--) {
             Due.is("29: left", x.undo(), left);
-            Due.is("29: depth", x.cell(0, 0, 0, 0), (left + 5) % 31);
+            Due.is("29: what was", x.cell(0, 0, 1 - left % 2, 0), (left + 4) % 31);
+            Due.is("29: the other one", x.cell(0, 0, left % 2, 0), (left + 5) % 31);
         }
         Due.is("29: none", x.undo(), STATE);
         Due.is("29: the fifth is kept", x.cell(0, 0, 0, 0), 5);
+        Due.is("29: the fourth is kept", x.cell(0, 0, 1, 0), 4);
         for (int left = 39; left >= 0; left--) {
             Due.is("30: left", x.redo(), left);
+            Due.is("30: what becomes", x.cell(0, 0, left % 2, 0), (45 - left) % 31);
         }
         Due.is("30: none", x.redo(), STATE);
-        Due.is("30: depth", x.cell(0, 0, 0, 0), 14);
+        Due.is("30: the other one", x.cell(0, 0, 1, 0), 44 % 31);
+        x.undo();
+        x.undo();
+        x.mend(0, 0, 2, 9);
+        Due.is("30: another came behind", x.redo(), STATE);
+        Due.is("40: changes", x.count(5), 39);
     }
 
     private static void body() {
