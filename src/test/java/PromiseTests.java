@@ -25,6 +25,7 @@ public final class PromiseTests {
         marginBad();
         lees();
         placesAndHours();
+        placesForHours();
         over();
         atTheEdge();
         order();
@@ -234,12 +235,13 @@ public final class PromiseTests {
         Due.is("6: the tape is empty then", x.count(4), 0);
         Due.is("6: 120 bytes", Due.law(x, "1" + "+1".repeat(59) + "0"), 1);
         Due.is("6: its rise", x.rise(1, 0), 60);
+        Due.is("6: 120 bytes, each of which counts", Due.law(x, "-1" + "+1".repeat(59)), 2);
+        Due.is("6: its rise", x.rise(2, 0), 58);
         Due.is("6: a fault", Due.law(x, "1+"), -102);
         Due.is("6: it empties the tape", x.count(4), 0);
-        Due.is("6: no law came", x.count(1), 2);
-        Due.is("6: many lines", Due.law(x, "0?1" + ";0?1".repeat(28) + ";7"), 2);
-        Due.is("6: its rise", x.rise(2, 0), 7);
-        Due.is("6: the fourth", Due.law(x, "c"), 3);
+        Due.is("6: no law came", x.count(1), 3);
+        Due.is("6: many lines", Due.law(x, "0?1" + ";0?1".repeat(28) + ";7"), 3);
+        Due.is("6: its rise", x.rise(3, 0), 7);
         Due.is("6: the fifth", Due.law(x, "c"), FULL);
         Due.is("6: the tape stays", x.count(4), 1);
         Due.feed(x, "?");
@@ -557,7 +559,33 @@ public final class PromiseTests {
                 Due.is("19: ph " + ph, x.mustNot(ph), y.mustNot(0));
                 Due.is("21: ph " + ph, x.line(place, 1232), y.line(0, 1232));
                 Due.is("23: ph " + ph, x.roped(ph, 1231, 100), y.roped(0, 1231, 100));
+                int last = y.cell(0, -1, 0, 0) - 1;
+                Due.is("13: ph " + ph, x.margin(ph, 1233, 100 + last, 0), y.margin(0, 1233, 100 + last, 0));
+                Due.is("23: ph " + ph, x.roped(ph, 1232, 100 + last), y.roped(0, 1232, 100 + last));
+                Due.is("23: a cell too many, ph " + ph, x.roped(ph, 1232, 101 + last), BAD);
                 Due.is("24: ph " + ph, x.stick(ph, 83), y.stick(0, 83));
+            }
+        }
+    }
+
+    /** What goes on for hours at each place is as at a place that is alone, by the same law. */
+    private static void placesForHours() {
+        String[] places = {"3,4,5/1", "5,6,1;4,9,2/2", "9,10,2/3", "1,12,0;8,2,2;6,6,6/4", "9,3,9/5", "7,8,3;2,14,4/6"};
+        String law = "h%7*2-7+h%3";
+        AcrossOnFoot x = Due.at(places);
+        addThree(x);
+        force(x, law);
+        for (int place = 0; place < 6; place++) {
+            AcrossOnFoot y = Due.at(places[place]);
+            addThree(y);
+            force(y, law);
+            for (int hour = 0; hour < 48; hour++) {
+                int ph = 100 * place + hour;
+                for (int gf : new int[] {11, 230}) {
+                    Due.is("18: ph " + ph, x.await(ph, gf), y.await(hour, gf));
+                    Due.is("20: ph " + ph, x.midst(ph, gf, 60, 0), y.midst(hour, gf, 60, 0));
+                    Due.is("20: ph " + ph, x.midst(ph, gf, 60, 1), y.midst(hour, gf, 60, 1));
+                }
             }
         }
     }
@@ -683,6 +711,9 @@ public final class PromiseTests {
         // place 1: 22 push; ALONE 363 - 22
         Due.is("16: the first of like ones", x.best(1, 47, 0), 5010);
         Due.is("16: least", x.best(1, 47, 1), 341);
+        x.mend(0, 0, 1, 5);
+        Due.is("16: place 0 is the first of like ones", x.best(1, 47, 0), 5000);
+        x.mend(0, 0, 1, 10);
         // ROWED 110 - 22, 142 - 19; WEDGED 88, 129; LINED 118 - 22, 134 - 22; ALONE 121 - 22, 156 - 22
         Due.is("16: two", x.best(23, 511, 0), 5010);
         Due.is("16: two", x.best(23, 511, 1), 99);
