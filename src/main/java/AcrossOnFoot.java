@@ -740,7 +740,11 @@ public final class AcrossOnFoot {
             if (tape.pass('(')) {
                 return readChain(WIDEST, open + 1) && tape.pass(')');
             }
-            return tape.pass('!') && readSigned('!', open) || tape.pass('-') && readSigned(NEGATE, open);
+            // a ! whose operand is refused leaves the cursor at the FAULT: no - may be tried there
+            if (tape.pass('!')) {
+                return readSigned('!', open);
+            }
+            return tape.pass('-') && readSigned(NEGATE, open);
         }
 
         private boolean readSigned(int sign, int open) {

@@ -29,13 +29,22 @@ final class Due {
     /** Feeds a text of signs 0 to 255, up to four at a time. */
     static void feed(AcrossOnFoot x, String text) {
         for (int from = 0; from < text.length(); from += 4) {
-            int n = Math.min(4, text.length() - from);
-            int v = 0;
-            for (int k = 0; k < n; k++) {
-                v |= text.charAt(from + k) << 8 * k;
-            }
-            x.feed(n, v);
+            x.feed(many(text, from), packed(text, from));
         }
+    }
+
+    /** How many signs of the text, from a place on, one call feeds. */
+    static int many(String text, int from) {
+        return Math.min(4, text.length() - from);
+    }
+
+    /** These signs as the call wants them. */
+    static int packed(String text, int from) {
+        int v = 0;
+        for (int k = 0; k < many(text, from); k++) {
+            v |= text.charAt(from + k) << 8 * k;
+        }
+        return v;
     }
 
     static int place(AcrossOnFoot x, String text) {

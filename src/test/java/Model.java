@@ -40,6 +40,12 @@ final class Model {
         return tape.length();
     }
 
+    void feed(String text) {
+        for (int from = 0; from < text.length(); from += 4) {
+            feed(Due.many(text, from), Due.packed(text, from));
+        }
+    }
+
     int place() {
         if (places.size() == 6) {
             return FULL;

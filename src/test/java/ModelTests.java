@@ -62,11 +62,8 @@ public final class ModelTests {
 
     private void feedBoth(String text) {
         for (int from = 0; from < text.length(); from += 4) {
-            int n = Math.min(4, text.length() - from);
-            int v = 0;
-            for (int k = 0; k < n; k++) {
-                v |= text.charAt(from + k) << 8 * k;
-            }
+            int n = Due.many(text, from);
+            int v = Due.packed(text, from);
             both("feed " + text, x.feed(n, v), model.feed(n, v));
         }
     }
@@ -136,12 +133,25 @@ public final class ModelTests {
             int kind = random.nextInt(6);
             return kind < 4 ? String.valueOf("hcri".charAt(kind)) : String.valueOf(upTo(kind == 4 ? 50 : 9999));
         }
-        switch (random.nextInt(8)) {
+        switch (random.nextInt(9)) {
             case 0: return "(" + expression(deep - 1) + ")";
             case 1: return "!" + expression(0);
             case 2: return "-" + expression(0);
+            case 3: return opened(1 + random.nextInt(7));
             default: return expression(deep - 1) + "+-*/%<=>|&".charAt(random.nextInt(10)) + expression(deep - 1);
         }
+    }
+
+    /** An operand with so many of ( ! - ahead: six are the most that may be open. */
+    private String opened(int signs) {
+        StringBuilder text = new StringBuilder();
+        int brackets = 0;
+        for (int n = 0; n < signs; n++) {
+            char sign = "(!-".charAt(random.nextInt(3));
+            brackets += sign == '(' ? 1 : 0;
+            text.append(sign);
+        }
+        return text.append(expression(0)).append(")".repeat(brackets)).toString();
     }
 
     private String spoilt(StringBuilder text, String signs) {
