@@ -1,3 +1,5 @@
+import java.util.List;
+
 /** Counts answers that are not the ones that are due, and prints them; and makes objects to ask. */
 final class Due {
     private static int wrong = 0;
@@ -16,6 +18,20 @@ final class Due {
 
     static void holds(String what, boolean so) {
         is(what, so ? 1 : 0, 1);
+    }
+
+    /** Two lists of calls with their answers are alike; else the first that differs is told. */
+    static void alike(String what, List<String> got, List<String> want) {
+        asked++;
+        for (int k = 0; k < Math.max(got.size(), want.size()); k++) {
+            String one = k < got.size() ? got.get(k) : "nothing more";
+            String other = k < want.size() ? want.get(k) : "nothing more";
+            if (!one.equals(other)) {
+                wrong++;
+                System.out.println(what + ": " + one + ", due is " + other);
+                return;
+            }
+        }
     }
 
     /** Ends the program: with exit code 1, if one answer was not due. */

@@ -554,10 +554,10 @@ public final class PromiseTests {
     /** Each place at each hour is as a place that is alone, by a law that tells the same rise at all hours. */
     private static void placesAndHours() {
         String[] places = {"3,4,5/1", "5,6,1;4,9,2/2", "9,10,2/3", "1,12,0;8,2,2;6,6,6/4", "10,3,9/5", "7,8,3;2,14,4/6"};
-        AcrossOnFoot x = Due.at(places);
-        addThree(x);
-        force(x, "h/2-9");
         for (int hour = 0; hour < 48; hour++) {
+            AcrossOnFoot x = Due.at(places);
+            addThree(x);
+            force(x, "h/2-9");
             for (int place = 0; place < 6; place++) {
                 AcrossOnFoot y = Due.at(places[place]);
                 addThree(y);
@@ -588,10 +588,10 @@ public final class PromiseTests {
     private static void placesForHours() {
         String[] places = {"3,4,5/1", "5,6,1;4,9,2/2", "9,10,2/3", "1,12,0;8,2,2;6,6,6/4", "9,3,9/5", "7,8,3;2,14,4/6"};
         String law = "h%7*2-7+h%3";
-        AcrossOnFoot x = Due.at(places);
-        addThree(x);
-        force(x, law);
         for (int place = 0; place < 6; place++) {
+            AcrossOnFoot x = Due.at(places);
+            addThree(x);
+            force(x, law);
             AcrossOnFoot y = Due.at(places[place]);
             addThree(y);
             force(y, law);

@@ -39,7 +39,7 @@ public final class RoomTests {
         }
         long before = THREADS.getCurrentThreadAllocatedBytes();
         x.force(0);
-        for (int n = 0; n < 20; n++) {
+        for (int n = 0; n < 10; n++) {
             sum += x.notch(n + 20, n) + x.body(n % 8) + x.act(n, 3, n) + x.mend(0, 0, 0, n) + x.row(n % 6, n % 5, 60);
             sum += x.best(12345, 47, 0) + x.wall(12345, 0) + x.order(0, 123453, 0) + x.gusts(0, 123453, 1, 5001, 0);
             sum += x.fit() + x.await(0, 123453) + x.line(0, 123453) + x.undo() + x.redo() + x.mustNot(n);
