@@ -1,3 +1,8 @@
+import java.util.ArrayList;
+import java.util.List;
+import java.util.Set;
+import java.util.TreeSet;
+
 /** Promises 10 to 23: each sentence that names a bound has a test of its own; its remark tells promise and sentence. */
 public final class GroupBoundTests {
     private static final int BAD = -1, NOT = -2, FULL = -3, VOID = -2000000000, TOO_DEEP = -9999;
@@ -9,6 +14,10 @@ public final class GroupBoundTests {
     private static final int SMALL = 3011;
     /** LEGS and PACK of HOLD 100, 85, 70, 55, 40 (the LEES of ROWED) there, and of one less each. */
     private static final int[] JUST = {517, 514, 707, 508, 407}, ONE_LESS = {908, 709, 320, 606, 310};
+
+    private interface AskAt {
+        long of(AcrossOnFoot x, int place, int hour);
+    }
 
     private GroupBoundTests() {
     }
@@ -23,6 +32,8 @@ public final class GroupBoundTests {
         digitsUnlike();
         fourForms();
         placesAndHours();
+        eachPlaceAtEachHour();
+        cellsOfOtherPlaces();
         ranksAndCells();
         sunkIsTheLesser();
         notBelowHeight();
@@ -39,6 +50,7 @@ public final class GroupBoundTests {
         leastOfAll();
         likeOrders();
         bestOrderIsTheLast();
+        eachOrderOfFive();
         orderOfOneAndOfFive();
         darkHours();
         fromHourToHour();
@@ -48,17 +60,20 @@ public final class GroupBoundTests {
         gustsOneToFifty();
         gustsUpToG();
         gustsAheadOfEachCell();
+        gustsOnTopOfThePace();
         harm();
         awaitFromOneOn();
         awaitNoneBy47();
         mustNotAtZero();
         mustNotInSomeCell();
         nobodyAndEight();
+        mustNotOfAll();
         midstMinutes();
         midstAtMost47();
         midstNone();
         backAtTheirHours();
         backAtMost47();
+        backAtZero();
         lineAtTheBounds();
         lineInThought();
         wallNot();
@@ -241,6 +256,74 @@ public final class GroupBoundTests {
             }
             Due.is("13: HOUR -1", x.margin(100 * place - 1, 11, 0, 1), VOID);
         }
+    }
+
+    /** 13 to 24: "(ph: 100 times the PLACE and the HOUR)": each call, at six unlike PLACES, at the first and last HOURS. */
+    private static void eachPlaceAtEachHour() {
+        eachPlaceAtEachHour("13: margin", (x, place, hour) -> x.margin(100 * place + hour, 211, 100, 0));
+        eachPlaceAtEachHour("14: over", (x, place, hour) -> x.over(100 * place + hour, 211, 1));
+        eachPlaceAtEachHour("14: over, FIRST", (x, place, hour) -> x.over(100 * place + hour, 123, 2));
+        eachPlaceAtEachHour("15: order", (x, place, hour) -> x.order(100 * place + hour, 121, 1));
+        eachPlaceAtEachHour("16: best", (x, place, hour) -> x.best(12, 101 * hour, 1));
+        eachPlaceAtEachHour("17: gusts", (x, place, hour) -> x.gusts(100 * place + hour, 11, hour, 5020, 0));
+        eachPlaceAtEachHour("17: gusts, HARM", (x, place, hour) -> x.gusts(100 * place + hour, 11, hour, 5020, 1));
+        eachPlaceAtEachHour("18: await", (x, place, hour) -> x.await(100 * place + hour, 10));
+        eachPlaceAtEachHour("19: mustNot", (x, place, hour) -> x.mustNot(100 * place + hour));
+        eachPlaceAtEachHour("20: midst", (x, place, hour) -> x.midst(100 * place + hour, 11, 60, 0));
+        eachPlaceAtEachHour("20: midst, BACK", (x, place, hour) -> x.midst(100 * place + hour, 11, 60, 1));
+        eachPlaceAtEachHour("21: line", (x, place, hour) -> x.line(place, 121));
+        eachPlaceAtEachHour("23: roped", (x, place, hour) -> x.roped(100 * place + hour, 211, 100));
+        eachPlaceAtEachHour("24: stick", (x, place, hour) -> x.stick(100 * place + hour, 11));
+    }
+
+    /** The answer is that of an object with no other PLACE; and it is not the same one everywhere. */
+    private static void eachPlaceAtEachHour(String call, AskAt ask) {
+        String[] places = {
+            "3,9,1/1", "10,9,3;5,12,2/2", "2,20,9;2,10,9/3", "9,8,0;0,0,0;8,8,8/4", "7,11,4/5", "5,13,2;9,6,6;1,1,1;7,9,1/6",
+        };
+        String law = "h=0?-2;h=1?2;h=46?-1;h=47?1;c-12";
+        Set<Long> answers = new TreeSet<>();
+        for (int place = 0; place < 6; place++) {
+            AcrossOnFoot x = small(new int[] {517, 606, 120}, places);
+            force(x, law);
+            AcrossOnFoot alone = small(new int[] {517, 606, 120}, places[place]);
+            force(alone, law);
+            for (int hour : new int[] {0, 1, 4, 5, 11, 12, 13, 19, 20, 23, 24, 29, 46, 47}) {
+                boolean ofAllPlaces = call.startsWith("16");
+                AcrossOnFoot due = ofAllPlaces ? x : alone;
+                answers.add(ask.of(due, 0, hour));
+                Due.is(call + " at " + place + ", " + hour, ask.of(x, place, hour), ask.of(due, 0, hour));
+            }
+        }
+        Due.holds(call + " answers in at least two ways", answers.size() >= 2);
+    }
+
+    /** 13 to 24: a PLACE has its own CELLS alone: not those ahead and behind, nor those of a text that was refused. */
+    private static void cellsOfOtherPlaces() {
+        String deep = "30,30,0" + ";30,30,0".repeat(11) + "/9";
+        AcrossOnFoot x = small(JUST, deep, TEN + "/7", deep, TEN + ";" + TEN + "/7");
+        for (int place : new int[] {1, 3}) {
+            standsEverywhere(x, place, place == 1 ? 1 : 2);
+        }
+        AcrossOnFoot y = small(JUST);
+        Due.is("3: refused", Due.place(y, deep + "9"), -100 - deep.length());
+        Due.is("3: taken", Due.place(y, TEN + "/7"), 0);
+        standsEverywhere(y, 0, 1);
+    }
+
+    private static void standsEverywhere(AcrossOnFoot x, int place, int cells) {
+        int ph = 100 * place + 12;
+        int gf = 123450 + ROWED;
+        Due.is("14: OVER", x.over(ph, gf, 0), 1);
+        Due.is("14: LEAST", x.over(ph, gf, 1), 0);
+        Due.is("14: FIRST", x.over(ph, gf, 2), NOT);
+        Due.is("15: LEAST", x.order(ph, gf, 1), 0);
+        Due.is("17: how often", x.gusts(ph, gf, 1, 5001, 0), 50);
+        Due.is("18: the HOUR", x.await(ph, gf), 12);
+        Due.is("19: nobody", x.mustNot(ph), 0);
+        Due.is("20: all CELLS", x.midst(ph, gf, 60, 0), cells);
+        Due.is("21: LINE", x.line(place, gf), 0);
+        Due.is("24: all CELLS", x.stick(ph, 11), (1 << cells) - 1);
     }
 
     /** 13, 23: "RANK k of a GROUP in CELL i (ki: 100 k and i)": five RANKS, twelve CELLS, and what is next to them. */
@@ -511,6 +594,24 @@ public final class GroupBoundTests {
         Due.is("15: LEAST", y.order(0, 543210 + ROWED, 1), 0);
     }
 
+    /** 15: "of all orders of the same PEOPLE": by who holds how much each of the 120 is the best. */
+    private static void eachOrderOfFive() {
+        for (int drawn = 0; drawn < 120; drawn++) {
+            List<Integer> left = new ArrayList<>(List.of(0, 1, 2, 3, 4));
+            int[] lps = new int[5];
+            int digits = 0;
+            for (int rank = 0, rest = drawn; rank < 5; rank++) {
+                int person = left.remove(rest % left.size());
+                rest /= left.size() + 1;
+                lps[person] = JUST[rank];
+                digits = 10 * digits + person + 1;
+            }
+            AcrossOnFoot x = small(lps, TEN + "/0");
+            Due.is("15: " + digits, x.order(0, 312450 + ROWED, 0), digits);
+            Due.is("15: LEAST of " + digits, x.order(0, 312450 + ROWED, 1), 0);
+        }
+    }
+
     /** 15: BEST ORDER of the smallest GROUP, and of one by HOURS at which nobody goes. */
     private static void orderOfOneAndOfFive() {
         AcrossOnFoot x = small(JUST, TEN + "/0");
@@ -684,6 +785,35 @@ public final class GroupBoundTests {
         Due.holds("17: it would be another number else", unlike > 100);
     }
 
+    /** 17: "PACE is more by (z >>> 8) % G": on top of a pace of 7: by gusts up to 3 HOLD 100 is enough. */
+    private static void gustsOnTopOfThePace() {
+        for (int most = 1; most <= 20; most++) {
+            AcrossOnFoot x = small(new int[] {517}, "10,7,0/9");
+            int overs = 0;
+            int z = most;
+            for (int n = 0; n < 50; n++) {
+                z = z * 1103515245 + 12345;
+                overs += (z >>> 8) % most <= 3 ? 1 : 0;
+            }
+            Due.is("17: G " + most, x.gusts(5, 11, most, 5000 + most, 0), overs);
+            Due.holds("17: always by G 4, not by G 5", most <= 4 == (overs == 50));
+            // by a RISE of -5 7 is 5, and by gusts up to 5; 5 deep, less is borne: HOLD 190, PUSH 5 times the square by 10
+            force(x, "-5");
+            Due.is("17: at the HOUR", x.gusts(5, 11, most, 5000 + most, 0), overAtMinus5(most));
+        }
+    }
+
+    /** 30 and 17 less 13 by 5 LEGS: 170 hold; a pace of 18 pushes 162, one of 19 180: by gusts up to 13. */
+    private static int overAtMinus5(int most) {
+        int overs = 0;
+        int z = most;
+        for (int n = 0; n < 50; n++) {
+            z = z * 1103515245 + 12345;
+            overs += (z >>> 8) % most <= 13 ? 1 : 0;
+        }
+        return overs;
+    }
+
     /** 17: "HARM: BELOW times how often not": 0, and 9 times 50. */
     private static void harm() {
         for (int below = 0; below <= 9; below++) {
@@ -764,6 +894,19 @@ public final class GroupBoundTests {
             setLp(y, person, 310);
             Due.is("19: PERSON " + person, y.mustNot(0), 1 << person);
         }
+    }
+
+    /** 19: "PEOPLE ... who": all of them, whatever GROUP was asked about ahead. */
+    private static void mustNotOfAll() {
+        AcrossOnFoot x = small(new int[] {310, 407, 310}, TEN + "/0");
+        Due.is("19: the first and the third", x.mustNot(5), 5);
+        x.over(5, 321, 0);
+        Due.is("19: behind a GROUP of two", x.mustNot(5), 5);
+        x.order(5, 2313, 0);
+        Due.is("19: behind a GROUP of three", x.mustNot(5), 5);
+        x.wall(2, 0);
+        Due.is("19: behind a GROUP of one", x.mustNot(5), 5);
+        Due.is("14: a GROUP behind it", x.over(5, 21, 1), -60);
     }
 
     // ---- promise 20
@@ -860,6 +1003,24 @@ public final class GroupBoundTests {
         Due.is("20: CELL 0 at 47, by 51", x.midst(46, 11, 60, 1), 0);
         Due.is("20: CELL 0 at 47, by 52", x.midst(47, 11, 60, 1), 1);
         Due.is("20: CELL 0 at once", x.midst(47, 11, 60, 0), 0);
+    }
+
+    /** 20: BACK: "whether ... they come back": all STAND with 0 each; and not, if one has -1 in one of the CELLS. */
+    private static void backAtZero() {
+        for (int rank = -1; rank < 5; rank++) {
+            for (int cell = 0; cell < 3; cell++) {
+                // CELL 3 stops them at 13; back at 13, 14, 15, where one CELL is as TEN, and the other ones are shallow
+                String text = "0,0,0;".repeat(cell) + "9,9,0;" + "0,0,0;".repeat(2 - cell) + "10,9,0/0";
+                AcrossOnFoot x = small(JUST, text);
+                force(x, "h>12?1");
+                x.mend(0, cell, 1, 10);
+                if (rank >= 0) {
+                    setLp(x, rank, ONE_LESS[rank]);
+                }
+                Due.is("20: the CELL", x.midst(10, 123451, 60, 0), 3);
+                Due.is("20: CELL " + cell + ", RANK " + rank, x.midst(10, 123451, 60, 1), rank < 0 ? 1 : 0);
+            }
+        }
     }
 
     // ---- promises 21 and 22
