@@ -35,6 +35,7 @@ public final class GroupBoundTests {
         eachPlaceAtEachHour();
         cellsOfOtherPlaces();
         ranksAndCells();
+        cellsAtPlaceAndHour();
         sunkIsTheLesser();
         notBelowHeight();
         holdIsCut();
@@ -64,6 +65,7 @@ public final class GroupBoundTests {
         harm();
         awaitFromOneOn();
         awaitNoneBy47();
+        awaitAtEachPlace();
         mustNotAtZero();
         mustNotInSomeCell();
         nobodyAndEight();
@@ -347,6 +349,28 @@ public final class GroupBoundTests {
             Due.is("13: the next one", x.margin(0, 10 * digits + ROWED, 100 * size, 1), VOID);
             Due.is("23: the last RANK of " + size, x.roped(0, 10 * digits + ROWED, 100 * size - 100), 1 << size - 1);
             Due.is("23: the next one", x.roped(0, 10 * digits + ROWED, 100 * size), BAD);
+        }
+    }
+
+    /** 13, 23: "of a GROUP in CELL i", "in a CELL at a PLACE and HOUR": PLACE p has p CELLS of 0 and TEN, and no more. */
+    private static void cellsAtPlaceAndHour() {
+        String[] places = new String[6];
+        for (int place = 0; place < 6; place++) {
+            places[place] = "0,0,0;".repeat(place) + TEN + "/0";
+        }
+        for (int place = 0; place < 6; place++) {
+            AcrossOnFoot x = small(new int[] {517, 517}, places);
+            force(x, "h=0?0;h=47?0;-20");
+            for (int hour : new int[] {0, 1, 46, 47}) {
+                for (int cell = 0; cell <= place; cell++) {
+                    boolean pushes = cell == place && (hour == 0 || hour == 47);
+                    String where = " at " + place + ", " + hour + " in " + cell;
+                    Due.is("13: PUSH" + where, x.margin(100 * place + hour, 10, cell, 2), pushes ? 100 : 0);
+                    Due.is("23: pulled in" + where, x.roped(100 * place + hour, 120, cell), pushes ? 3 : 1);
+                }
+                Due.is("13: no further CELL at " + place, x.margin(100 * place + hour, 10, place + 1, 2), VOID);
+                Due.is("23: no further CELL at " + place, x.roped(100 * place + hour, 120, place + 1), BAD);
+            }
         }
     }
 
@@ -855,6 +879,21 @@ public final class GroupBoundTests {
         Due.is("18: by DARK HOURS alone", y.await(0, 123451), NOT);
     }
 
+    /** 18: "the first HOUR from one on, not DARK": by an ebb the deeper PLACES are 10 deep later. */
+    private static void awaitAtEachPlace() {
+        AcrossOnFoot x = small(new int[] {900}, "3,0,0/0", "4,0,0/0", "5,0,0/0", "6,0,0/0", "7,0,0/0", "8,0,0/0");
+        force(x, "12-h");
+        for (int place = 0; place < 6; place++) {
+            int first = 5 + place;
+            for (int from : new int[] {0, 1, 4, 5, first, first + 1, 19}) {
+                Due.is("18: at " + place + " from " + from, x.await(100 * place + from, 10), Math.max(first, from));
+            }
+            Due.is("18: at " + place + " on the next day", x.await(100 * place + 20, 10), 29);
+            Due.is("18: at " + place + " to the last", x.await(100 * place + 43, 10), 43);
+            Due.is("18: at " + place + " too late", x.await(100 * place + 44, 10), NOT);
+        }
+    }
+
     /** 19: "who ... do not STAND ... as one of a ROWED GROUP with LEE 40": 40 and 39 hold, 40 push. */
     private static void mustNotAtZero() {
         AcrossOnFoot x = small(new int[] {407, 310, 407, 310}, TEN + "/0");
@@ -866,8 +905,12 @@ public final class GroupBoundTests {
         Due.is("19: not with the mean", x.mustNot(5), 18);
     }
 
-    /** 19: "in some CELL": in the first, in the last; and as deep as high. */
+    /** 19: "in some CELL": in the first, in the last, in several; and as deep as high. */
     private static void mustNotInSomeCell() {
+        for (int cells = 1; cells <= 12; cells++) {
+            AcrossOnFoot x = small(new int[] {407, 310}, TEN + (";" + TEN).repeat(cells - 1) + "/0");
+            Due.is("19: in each of " + cells + " CELLS", x.mustNot(5), 2);
+        }
         for (int i = 0; i < 12; i++) {
             AcrossOnFoot x = small(new int[] {407, 310}, "0,0,0;".repeat(i) + TEN + ";0,0,0".repeat(11 - i) + "/0");
             Due.is("19: CELL " + i, x.mustNot(5), 2);

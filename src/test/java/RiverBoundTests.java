@@ -40,6 +40,7 @@ public final class RiverBoundTests {
         oneQuestionALine();
         oneComparison();
         chainsOfNoneOrMore();
+        whatIsJoinedFirst();
         sixOpenAtOnce();
         openedAndClosedAgain();
         noBlanksInLaws();
@@ -645,6 +646,35 @@ public final class RiverBoundTests {
         }
         rises("1--1", 2);
         rises("1---1", 0);
+    }
+
+    /** 6, 9: "E = A { | A }. A = B { & B }. B = S, or S < S ...": each sign joins what the signs named behind it made. */
+    private static void whatIsJoinedFirst() {
+        rises("1|1&0", 1);
+        rises("0&1|1", 1);
+        rises("0&0=0", 0);
+        rises("0=0&0", 0);
+        rises("5&5=5", 1);
+        rises("2<1+2", 1);
+        rises("2+1>2", 1);
+        rises("2+3*4", 14);
+        rises("3*4+2", 14);
+        rises("9-4/2", 7);
+        rises("9-4%3", 8);
+        rises("-2*3", -6);
+        rises("!2*3", 0);
+        rises("!0+1", 2);
+        rises("-1+2", 1);
+        rises("9-4-3", 2);
+        rises("36/6/3", 2);
+        rises("36/6*3", 18);
+        rises("35%8%2", 1);
+        rises("2*7%5", 4);
+        rises("9-(4-3)", 8);
+        rises("(2+3)*4", 20);
+        rises("(1|1)&0", 0);
+        rises("0?1|1;7", 7);
+        rises("0|1?7;8", 7);
     }
 
     /** 6: "At most 6 of ( ! - ahead of an O are open at once": each six of them are taken, and each seventh is not. */
