@@ -21,6 +21,7 @@ public final class LanguageTests {
         + " off(int)int fit()int undo()int redo()int body(int)int act(int,int,int)int trace(int)int keep(int,int)int"
         + " row(int,int,int)int put(int,int,long)int element(int,int)long shift(int,int,int,int,int)int"
         + " taken(int,int)int count(int)int";
+    private static final List<String> FACE_NAMES = List.of(FACE.replaceAll("\\(.*?\\)\\w+", "").split(" "));
     private static final String SOURCE = "src/main/java/AcrossOnFoot.java";
     private static final String[] FORBIDDEN = {
         "throw", "throws", "try", "catch", "finally", "synchronized", "assert", "->", "::", "public static int",
@@ -93,6 +94,8 @@ public final class LanguageTests {
             Due.holds(c + " has some twenty fields", fields <= 20);
             for (Method m : c.getDeclaredMethods()) {
                 Due.holds(m + " has seven parameters at most", m.getParameterCount() <= 7);
+                boolean hidden = Modifier.isPrivate(m.getModifiers());
+                Due.holds(m + " does not bear a public one's name", !hidden || !FACE_NAMES.contains(m.getName()));
             }
         }
     }
